@@ -90,7 +90,8 @@ public final class Manyshiftloom {
         history.remember(shop);
         int number = shop.orderCount;
         shop.addOrder(kind, amount, release, due, weight);
-        startAfresh();
+        shop.startAfresh();
+        refresh();
         return number;
     }
 
@@ -102,7 +103,8 @@ public final class Manyshiftloom {
         requireState(shop.worksIn(order) < WORKS_OF_ORDER && shop.workCount < WORKS);
         history.remember(shop);
         shop.addWork(order, machine, time, tool);
-        startAfresh();
+        shop.startAfresh();
+        refresh();
         return shop.worksIn(order);
     }
 
@@ -110,7 +112,8 @@ public final class Manyshiftloom {
         requireIndex(isOrder(order));
         history.remember(shop);
         shop.removeOrder(order);
-        startAfresh();
+        shop.startAfresh();
+        refresh();
         return shop.orderCount;
     }
 
@@ -134,7 +137,8 @@ public final class Manyshiftloom {
         history.remember(shop);
         int number = shop.orderCount;
         shop.cutLot(order, amount);
-        startAfresh();
+        shop.startAfresh();
+        refresh();
         return number;
     }
 
@@ -264,7 +268,7 @@ public final class Manyshiftloom {
     public int least() throws IllegalStateException {
         requireState(shop.workCount <= MOST_SEARCHED);
         history.remember(shop);
-        if (!maker.findLeast(shop, trial)) {
+        if (!maker.findLeast(shop, trial, shop.lowestEnd())) {
             return NONE;
         }
         takeRow(maker.bestRow);
@@ -487,20 +491,13 @@ public final class Manyshiftloom {
 
     // ---- What the calls share
 
-    private void startAfresh() {
-        shop.forgetKept();
-        shop.layRow();
-        refresh();
-    }
-
     private void refresh() {
         present.follow(shop, shop.row, shop.workCount);
     }
 
     private boolean takeRow(int[] row) {
         copy(row, shop.row);
-        refresh();
-        return present.fits;
+        return present.follow(shop, shop.row, shop.workCount);
     }
 
     private boolean isOrder(int order) {
@@ -644,13 +641,13 @@ public final class Manyshiftloom {
 
         int timeOn(int order, int machine) {
             int count = worksIn(order);
-            int time = 0;
+            int pieces = 0;
             for (int work = 0; work < count; work++) {
                 if (workCell(order, work, MACHINE) == machine) {
-                    time += timeOf(order, work);
+                    pieces += workCell(order, work, PIECE);
                 }
             }
-            return time;
+            return pieces * orderCell(order, AMOUNT);
         }
 
         int timeOnMachine(int machine) {
@@ -758,8 +755,10 @@ public final class Manyshiftloom {
             }
         }
 
-        void forgetKept() {
+        /** Orders and works are others now: what was kept goes, and the first row comes back. */
+        void startAfresh() {
             fill(kept, 0);
+            layRow();
         }
 
         void keepRow(int slot) {
@@ -981,9 +980,9 @@ public final class Manyshiftloom {
         }
 
         private void useWorkers(int place, int more) {
-            int finish = isScarce ? at(finishes, place) : 0;
-            for (int time = at(begins, place); time < finish; time++) {
-                put(used, time, at(used, time) + more);
+            int finish = isScarce ? Math.min(at(finishes, place), LAST) : 0;
+            for (int time = Math.max(at(begins, place), 0); time < finish; time++) {
+                used[time] += more;
             }
         }
 
@@ -1213,12 +1212,13 @@ public final class Manyshiftloom {
             }
         }
 
-        boolean findLeast(Shop shop, Timing timing) {
+        /** The bound is below the end of every plan: the search may stop at a plan that reaches it. */
+        boolean findLeast(Shop shop, Timing timing, int bound) {
             timing.restart(shop);
             for (int machine = 0; machine < MACHINES; machine++) {
                 leftOn[machine] = shop.timeOnMachine(machine);
             }
-            goal = shop.lowestEnd();
+            goal = bound;
             bestEnd = NEVER;
             explore(shop, timing, 0, 0);
             return bestEnd != NEVER;
@@ -1236,7 +1236,6 @@ public final class Manyshiftloom {
             if (depth >= MOST_SEARCHED) {
                 return;
             }
-            // No plan ends ahead of the bound: the search may stop there.
             for (int order = 0; order < shop.orderCount && bestEnd > goal; order++) {
                 if (timing.placedOf(order) < shop.worksIn(order)) {
                     exploreOrder(shop, timing, depth, end, order);

@@ -1,0 +1,69 @@
+/** Looms that several tests begin with. */
+final class Looms {
+    private Looms() {
+    }
+
+    /** Order 0: 6 on machine 0, then 4 on machine 1; order 1: 5 on machine 0. The first row ends at 11. */
+    static Manyshiftloom two() {
+        Manyshiftloom loom = new Manyshiftloom();
+        loom.order(0, 2, 0, 10, 1);
+        loom.work(0, 0, 3, -1);
+        loom.work(0, 1, 2, -1);
+        loom.order(1, 1, 0, 5, 2);
+        loom.work(1, 0, 5, -1);
+        return loom;
+    }
+
+    /** Two orders on machines 0 and 1 whose first row, 0 0 1 1, ends at 9; 1 0 1 0 ends at 7. */
+    static Manyshiftloom crossed() {
+        Manyshiftloom loom = new Manyshiftloom();
+        loom.order(0, 1, 0, 0, 1);
+        loom.work(0, 0, 3, -1);
+        loom.work(0, 1, 2, -1);
+        loom.order(0, 1, 0, 0, 1);
+        loom.work(1, 0, 1, -1);
+        loom.work(1, 1, 4, -1);
+        return loom;
+    }
+
+    /** So many orders alike, each with one work of time 1 on machine 0. */
+    static Manyshiftloom alike(int orders) {
+        Manyshiftloom loom = new Manyshiftloom();
+        for (int order = 0; order < orders; order++) {
+            loom.order(0, 1, 0, 0, 1);
+            loom.work(order, 0, 1, -1);
+        }
+        return loom;
+    }
+
+    /** One order whose only work can never be done. */
+    static Manyshiftloom withoutTimes() {
+        Manyshiftloom loom = alike(1);
+        for (int shift = 0; shift < 3; shift++) {
+            loom.workers(shift, 0);
+        }
+        return loom;
+    }
+
+    static String row(Manyshiftloom loom) {
+        StringBuilder row = new StringBuilder();
+        for (int place = 0; place < loom.works(); place++) {
+            row.append(loom.rowAt(place));
+        }
+        return row.toString();
+    }
+
+    /** The text on the tape, byte by byte, so that it may hold any sign but 0. */
+    static int tape(Manyshiftloom loom, String text) {
+        int length = 0;
+        for (int at = 0; at < text.length(); at++) {
+            length = loom.append(0, 0, 0, 0, text.charAt(at));
+        }
+        return length;
+    }
+
+    static boolean read(Manyshiftloom loom, String text) {
+        tape(loom, text);
+        return loom.read();
+    }
+}
