@@ -23,10 +23,11 @@ public final class Manyshiftloom {
     private static final int DAY_TIMES = 24;
     private static final int MOST_WORKERS = 4;
 
-    /** No work ends behind this time. */
     private static final int LAST = 2000;
-    /** The begin and the end of a work that would not end by LAST. */
+    /** A work that would not end by LAST begins and ends here: behind all that have times. */
     private static final int NEVER = 2001;
+    /** Above every time, sum and cost of one machine, so that it can stand for none. */
+    private static final int FAR = 1000000;
 
     private static final int RULES = 6;
     private static final int MOST_SEARCHED = 8;
@@ -35,7 +36,7 @@ public final class Manyshiftloom {
     private static final int TAPE_BYTES = 60;
     private static final int CHANGES = 12;
 
-    /** What orderOf() tells: the cells of an order, in this order, and one figure more. */
+    /** The cells of an order stand as orderOf() numbers them, so that its "what" is a cell. */
     private static final int KIND = 0;
     private static final int AMOUNT = 1;
     private static final int RELEASE = 2;
@@ -45,7 +46,7 @@ public final class Manyshiftloom {
     private static final int WHOLE_TIME = 6;
     private static final int ORDER_CELLS = 6;
 
-    /** What workOf() tells: the cells of a work, in this order, and one figure more. */
+    /** The cells of a work stand as workOf() numbers them, so that its "what" is a cell. */
     private static final int MACHINE = 0;
     private static final int PIECE = 1;
     private static final int TOOL = 2;
@@ -420,7 +421,7 @@ public final class Manyshiftloom {
     }
 
     public boolean read() throws IllegalArgumentException {
-        tape.errorAt = tape.parse(shop, maker.row);
+        tape.errorAt = tape.findError(shop, maker.row);
         tape.length = 0;
         requireArgument(tape.errorAt == NONE);
         history.remember(shop);
@@ -723,7 +724,7 @@ public final class Manyshiftloom {
             restCount++;
         }
 
-        /** The end of a rest of the machine that meets these times; the first of them if none does. */
+        /** Answers with a time behind the rest, not with a yes: no begin up to there is worth a try. */
         int timeBehindRest(int machine, int from, int to) {
             for (int rest = 0; rest < restCount; rest++) {
                 int cell = rest * REST_CELLS;
@@ -735,7 +736,7 @@ public final class Manyshiftloom {
             return from;
         }
 
-        /** Whether workers can lack at all: each machine does one work at a time. */
+        /** A machine does one work at a time, so that workers lack only where they are fewer than machines. */
         boolean isShortOfWorkers() {
             boolean isShort = false;
             for (int shift = 0; shift < SHIFTS; shift++) {
@@ -792,8 +793,8 @@ public final class Manyshiftloom {
             if (time == 0) {
                 return 0;
             }
-            int ahead = Integer.MAX_VALUE;
-            int behind = Integer.MAX_VALUE;
+            int ahead = FAR;
+            int behind = FAR;
             for (int order = 0; order < orderCount; order++) {
                 int count = worksIn(order);
                 int whole = orderCell(order, RELEASE) + timeFrom(order, 0);
@@ -846,7 +847,7 @@ public final class Manyshiftloom {
         }
     }
 
-    /** The times of a row, place by place; the latest place can be taken back. */
+    /** The latest place can be taken back, so that a search need not go through a row from its begin again. */
     private static final class Timing {
         boolean fits = true;
         private boolean isScarce;
@@ -896,7 +897,6 @@ public final class Manyshiftloom {
             return at(placed, order);
         }
 
-        /** The begin of the next work of an order; NEVER if it would not end by LAST. */
         int earliest(Shop shop, int order) {
             int work = at(placed, order);
             int machine = shop.workCell(order, work, MACHINE);
@@ -1065,7 +1065,6 @@ public final class Manyshiftloom {
             return last;
         }
 
-        /** The critical work ahead of a critical one; it stands ahead of it in the row, too. */
         private int criticalAhead(Shop shop, int place) {
             int begin = at(begins, place);
             int inOrder = at(orderBefore, place);
@@ -1158,7 +1157,6 @@ public final class Manyshiftloom {
         }
     }
 
-    /** Makes rows: by a rule, the one with the least end, those of the moves. */
     private static final class Maker {
         final int[] row = new int[WORKS];
         final int[] bestRow = new int[WORKS];
@@ -1291,7 +1289,6 @@ public final class Manyshiftloom {
             return length;
         }
 
-        /** Whether a move makes the end less, or the cost with the same end. */
         boolean findMove(Shop shop, Timing timing, int end, long cost) {
             bestEnd = end;
             bestCost = cost;
@@ -1323,7 +1320,6 @@ public final class Manyshiftloom {
         }
     }
 
-    /** The orders of one machine, one behind the other. */
     private static final class OneMachine {
         private final int[] times = new int[ORDERS];
         final int[] row = new int[ORDERS];
@@ -1421,7 +1417,7 @@ public final class Manyshiftloom {
             if (count == 0) {
                 return 0;
             }
-            int greatest = Integer.MIN_VALUE;
+            int greatest = -FAR;
             int end = 0;
             for (int place = 0; place < count; place++) {
                 int order = at(row, place);
@@ -1432,7 +1428,6 @@ public final class Manyshiftloom {
         }
     }
 
-    /** The orders of two machines, which go through the first one and then the second one. */
     private static final class TwoMachines {
         final int[] firsts = new int[ORDERS];
         final int[] seconds = new int[ORDERS];
@@ -1507,7 +1502,7 @@ public final class Manyshiftloom {
 
         private int bestOfOne(Shop shop, OneMachine one, int way) {
             int sets = 1 << one.count;
-            put(bests, 0, way == BY_DAYS ? Integer.MIN_VALUE : 0);
+            put(bests, 0, way == BY_DAYS ? -FAR : 0);
             for (int set = 1; set < sets; set++) {
                 put(bests, set, bestOfSet(shop, one, way, set));
             }
@@ -1519,7 +1514,7 @@ public final class Manyshiftloom {
             for (int index = 0; index < one.count; index++) {
                 end += isIn(set, index) ? one.timeOf(at(one.row, index)) : 0;
             }
-            int best = Integer.MAX_VALUE;
+            int best = FAR;
             for (int index = 0; index < one.count; index++) {
                 if (isIn(set, index)) {
                     int before = at(bests, set - (1 << index));
@@ -1567,7 +1562,7 @@ public final class Manyshiftloom {
             for (int index = 0; index < pair.count; index++) {
                 firstEnd += isIn(set, index) ? at(pair.firsts, at(pair.row, index)) : 0;
             }
-            int best = Integer.MAX_VALUE;
+            int best = FAR;
             for (int index = 0; index < pair.count; index++) {
                 if (isIn(set, index)) {
                     int before = at(bests, set - (1 << index));
@@ -1613,8 +1608,7 @@ public final class Manyshiftloom {
             }
         }
 
-        /** Puts the plan of the text into the row; returns where the text has an error, or NONE. */
-        int parse(Shop shop, int[] row) {
+        int findError(Shop shop, int[] row) {
             fill(stood, 0);
             int place = 0;
             for (int index = 0; index < length; index++) {

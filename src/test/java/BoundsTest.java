@@ -34,6 +34,18 @@ public final class BoundsTest {
         machine.work(2, 1, 1, -1);
         Check.same("25: the least ahead and the least behind", machine.bound(), 27);
         Check.same("25: without times", Looms.withoutTimes().bound(), 1);
+        Manyshiftloom chain = new Manyshiftloom();
+        for (int order = 0; order < 3; order++) {
+            chain.order(0, 1, 0, 0, 1);
+            chain.work(order, order, 1, -1);
+        }
+        chain.order(0, 2, 6, 0, 1);
+        for (int on = 0; on < 3; on++) {
+            chain.work(3, on, 3 + on, -1);
+        }
+        Check.same("25: an order that is longer than each machine", chain.bound(), 30);
+        chain.drop(3);
+        Check.same("25: without it", chain.bound(), 1);
         Manyshiftloom twice = new Manyshiftloom();
         twice.order(0, 1, 5, 0, 1);
         twice.work(0, 0, 2, -1);
@@ -114,6 +126,7 @@ public final class BoundsTest {
         Check.raisesIndex("28: place -1", () -> loom.criticalAt(-1));
         Check.same("27: without works", new Manyshiftloom().critical(), 0);
         Check.raisesIndex("28: without works", () -> new Manyshiftloom().criticalAt(0));
+        criticalWithGaps();
         Manyshiftloom ends = new Manyshiftloom();
         ends.order(0, 1, 0, 0, 1);
         ends.work(0, 0, 2, -1);
@@ -125,6 +138,28 @@ public final class BoundsTest {
         ends.rest(1, 0, 1);
         Check.same("28: it begins behind a rest", ends.criticalAt(0), 10);
         Check.same("27: none is ahead of it", ends.critical(), 1);
+    }
+
+    /** Works that stand ahead, but end too early to be critical. */
+    private static void criticalWithGaps() {
+        Manyshiftloom loom = new Manyshiftloom();
+        loom.order(0, 1, 0, 0, 1);
+        loom.work(0, 0, 2, -1);
+        loom.order(1, 1, 5, 0, 1);
+        loom.work(1, 1, 1, 2);
+        loom.order(2, 1, 20, 0, 1);
+        loom.work(2, 0, 2, 2);
+        Check.same("27: machine and tool are free before", loom.critical(), 1);
+        Check.same("28: the last one alone", loom.criticalAt(0), 20);
+        loom.setting(0, 0, 2, 18);
+        Check.same("27: the setting ends as it begins", loom.critical(), 2);
+        Check.same("28: by the setting", loom.criticalAt(0), 0);
+        loom.setting(0, 0, 2, 17);
+        Check.same("27: the setting ends before", loom.critical(), 1);
+        loom.setAmount(1, 9);
+        loom.rest(1, 5, 11);
+        Check.same("27: the tool ends as it begins", loom.critical(), 2);
+        Check.same("28: by the tool", loom.criticalAt(0), 10);
     }
 
     /** The order comes ahead of the machine, the machine ahead of the tool. */

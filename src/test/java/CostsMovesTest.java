@@ -132,6 +132,13 @@ public final class CostsMovesTest {
         Check.same("39: no better one", loom.improve(), -1);
         loom.setRate(true, 0);
         Check.same("39: the same cost is not better", loom.improve(), -1);
+        Manyshiftloom heavy = new Manyshiftloom();
+        for (int order = 0; order < 3; order++) {
+            heavy.order(0, 1, 0, 0, order == 2 ? 9 : 1);
+            heavy.work(order, 0, 2, -1);
+        }
+        Check.same("39: to the first place", heavy.improve(), 0);
+        Check.same("39: the last one is taken", Looms.row(heavy), "201");
         Manyshiftloom dearer = new Manyshiftloom();
         dearer.order(0, 1, 4, 0, 1);
         dearer.work(0, 0, 1, -1);

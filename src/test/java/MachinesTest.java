@@ -73,6 +73,15 @@ public final class MachinesTest {
                 new int[] {2, 12, 1});
         Check.same("31: the longest goes", longer.fewestLate(2), 1);
         Check.same("32: the others move up", one(longer, 2, 4), "0231");
+        Manyshiftloom between = orders(new int[] {2, 2, 1}, new int[] {5, 8, 1}, new int[] {2, 8, 1},
+                new int[] {3, 9, 1});
+        Check.same("31: the longest stands between", between.fewestLate(2), 1);
+        Check.same("32: those behind it move up", one(between, 2, 4), "0231");
+        Manyshiftloom ahead = orders(new int[] {5, 6, 1}, new int[] {2, 6, 1}, new int[] {1, 7, 1});
+        Check.same("31: the longest stands ahead", ahead.fewestLate(2), 1);
+        Check.same("32: the longest stands ahead", one(ahead, 2, 3), "120");
+        Manyshiftloom alike = orders(new int[] {3, 5, 1}, new int[] {3, 3, 1});
+        Check.same("32: of several the greatest order, not the last one", one(alike, 2, 2), "01");
     }
 
     private static void worksTogether() {
@@ -153,6 +162,7 @@ public final class MachinesTest {
         // Order 5 has 0 on the first one; order 0 is not less on it.
         Check.same("34: of several the least order", told(loom, 6), "512034");
         Check.same("33: end", loom.two(3, 1), 23);
+        Check.same("34: as long on both is not less", told(pairs(new int[] {4, 4}, new int[] {5, 6}), 2), "10");
         Manyshiftloom whole = new Manyshiftloom();
         whole.order(0, 3, 0, 0, 1);
         whole.work(0, 3, 1, -1);

@@ -64,6 +64,7 @@ public final class OrdersTest {
         told.move(0, 3);
         told.order(0, 1, 0, 0, 1);
         Check.same("2: the first row comes back", Looms.row(told), "0011");
+        Check.same("2: and its times", told.begin(1, 0), 3);
     }
 
     private static void work() {
@@ -161,6 +162,7 @@ public final class OrdersTest {
             Check.same("6: works alike", loom.workOf(1, 1, what), loom.workOf(0, 1, what));
         }
         Check.same("6: row", Looms.row(loom), "0011");
+        Check.same("6: times", loom.begin(1, 0), 17);
         Check.same("6: one less than it has", loom.cut(1, 3), 2);
         Check.same("6: one piece is left", loom.orderOf(1, 1), 1);
         Check.raisesArgument("6: one piece cannot be cut", () -> loom.cut(1, 1));

@@ -4,8 +4,8 @@ import java.util.Arrays;
 
 /** Random runs, the same ones each time, on the class and on the plain loom: every answer must be the same. */
 public final class RandomRunsTest {
-    private static final int RUNS = 1500;
-    private static final int CALLS = 220;
+    private static final int RUNS = 800;
+    private static final int CALLS = 200;
 
     private static final String[] SET_UP = {"order", "work", "work", "work", "setting", "rest", "workers"};
     private static final String[] ALL = {
@@ -46,13 +46,44 @@ public final class RandomRunsTest {
         for (int call = 0; call < CALLS && holds; call++) {
             String name = call < setUp ? SET_UP[below(SET_UP.length)] : ALL[below(ALL.length)];
             holds = name.equals("text") ? tellText() : tell(name);
-            holds = holds && (!changes(name) || tell("checksum") && tell("hasTimes"));
+            holds = holds && tell("checksum") && tell("hasTimes");
+            if (call == setUp + 3 || call == CALLS - 1) {
+                holds = holds && askAll();
+            }
         }
         Check.note(holds, "run " + run + " of\n" + (holds ? "" : told));
     }
 
-    private static boolean changes(String name) {
-        return !name.equals("append");
+    /** Every question, with every number that it can bear. */
+    private boolean askAll() {
+        boolean holds = true;
+        for (String name : new String[] {"end", "bound", "critical", "cost", "late", "meanEnd", "errors", "write"}) {
+            holds &= tell(name);
+        }
+        for (int machine = 0; machine < 4; machine++) {
+            for (String name : new String[] {"load", "weighted", "lateness", "fewestLate", "use"}) {
+                holds &= tell(name, machine);
+            }
+            for (int place = 0; place < plain.orders(); place++) {
+                holds &= tell("oneAt", machine, 0, place) && tell("oneAt", machine, 1, place)
+                        && tell("oneAt", machine, 2, place);
+            }
+            for (int other = 0; other < 4; other++) {
+                holds &= tell("two", machine, other);
+                holds &= tell("twoAt", machine, other, below(plain.orders() + 1));
+                holds &= tell("workAt", machine, time()) && tell("rests", machine, time());
+            }
+        }
+        for (int order = 0; order < plain.orders(); order++) {
+            holds &= tell("endOf", order) && tell("without", order) && tell("orderOf", order, 6);
+            for (int work = 0; work < plain.orderOf(order, 5); work++) {
+                holds &= tell("begin", order, work) && tell("workOf", order, work, 3);
+            }
+        }
+        for (int place = 0; place <= plain.works() && plain.hasTimes(); place++) {
+            holds &= tell("criticalAt", place) && tell("writtenAt", place);
+        }
+        return holds;
     }
 
     /** A row on the tape, mostly one that fits, with blanks. */
@@ -89,7 +120,7 @@ public final class RandomRunsTest {
         return tell(name, arguments(name));
     }
 
-    private boolean tell(String name, Object[] arguments) {
+    private boolean tell(String name, Object... arguments) {
         if (name.equals("least") && below(3) != 0 && plain.works() == 8) {
             return true;
         }
@@ -142,7 +173,7 @@ public final class RandomRunsTest {
         switch (name) {
             case "order":
                 return new Object[] {number(0, isSmall ? 1 : 3), number(1, isSmall ? 3 : 9), number(0, isSmall ? 6 : 200),
-                    number(0, isSmall ? 40 : 500), number(1, isSmall ? 3 : 9)};
+                    number(0, isSmall ? 24 : 500), number(1, isSmall ? 3 : 9)};
             case "work":
                 return new Object[] {order(), number(0, isSmall ? 2 : 3), number(1, isSmall ? 4 : 9), number(-1, 2)};
             case "drop":

@@ -109,10 +109,20 @@ public final class RestWorkersTest {
         loom.setAmount(3, 5);
         Check.same("14: begins ahead of the second shift", loom.begin(3, 0), 6);
         loom.setAmount(2, 1);
+        Check.same("14: the others one by one", loom.begin(2, 0), 4);
         loom.move(3, 0);
         Check.same("14: by the row", loom.begin(0, 0), 5);
         loom.workers(0, 4);
         Check.same("14: all again", loom.begin(0, 0), 0);
+        Manyshiftloom ones = new Manyshiftloom();
+        for (int order = 0; order < 3; order++) {
+            ones.order(0, 1, 0, 0, 1);
+            ones.work(order, order, 1, -1);
+        }
+        ones.workers(0, 1);
+        for (int order = 0; order < 3; order++) {
+            Check.same("14: the time 0 counts", ones.begin(order, 0), order);
+        }
     }
 
     private static void rests() {

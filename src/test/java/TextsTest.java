@@ -27,6 +27,11 @@ public final class TextsTest {
             loom.append(0, 0x20000000, 0, 0, 0);
         }
         Check.raisesState("44: 61", () -> loom.append(0x2020, 0, 0, 0, 0));
+        Check.raisesState("44: 61", () -> loom.append(0, 0x2020, 0, 0, 0));
+        Check.raisesState("44: 61", () -> loom.append(0, 0, 0x2020, 0, 0));
+        Check.raisesState("44: 61", () -> loom.append(0, 0, 0, 0x2020, 0));
+        Check.raisesState("44: 61", () -> loom.append(0, 0, 0, 0, 0x2020));
+        Check.raisesState("44: 61", () -> loom.append(0x20, 0, 0, 0, 0x20));
         Check.same("44: 60", loom.append(0, 0, 0, 0, 0x20), 60);
     }
 
@@ -95,6 +100,11 @@ public final class TextsTest {
         Looms.tape(loom, "0");
         Check.raisesArgument("46: an order without works", loom::read);
         Check.same("47: an order without works", loom.errorPosition(), 0);
+        Manyshiftloom less = Looms.two();
+        less.drop(1);
+        Looms.tape(less, " 001");
+        Check.raisesArgument("46: an order that went", less::read);
+        Check.same("47: an order that went", less.errorPosition(), 3);
         Manyshiftloom full = Looms.alike(8);
         Looms.tape(full, "76543218");
         Check.raisesArgument("46: the digit 8", full::read);

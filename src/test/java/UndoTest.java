@@ -6,6 +6,7 @@ public final class UndoTest {
         questionsAreNoChanges();
         thrownAreNoChanges();
         twelve();
+        keptAndRests();
         whatStays();
         checksum();
         meanEnd();
@@ -44,8 +45,15 @@ public final class UndoTest {
         return told.toString();
     }
 
+    /** Ten changes; each of those that follow has something to change. */
     private static Manyshiftloom begun() {
-        Manyshiftloom loom = Looms.crossed();
+        Manyshiftloom loom = new Manyshiftloom();
+        loom.order(0, 1, 0, 0, 1);
+        loom.work(0, 0, 3, -1);
+        loom.work(0, 1, 2, -1);
+        loom.order(1, 2, 0, 0, 1);
+        loom.work(1, 0, 1, -1);
+        loom.work(1, 1, 4, -1);
         loom.rest(0, 30, 31);
         loom.setRate(true, 3);
         loom.keep(1);
@@ -73,9 +81,9 @@ public final class UndoTest {
             case 1: loom.work(1, 2, 3, 0); break;
             case 2: loom.drop(0); break;
             case 3: loom.setAmount(0, 2); break;
-            case 4: loom.drop(1); break;
-            case 5: loom.setAmount(1, 1); break;
-            case 6: loom.order(0, 1, 0, 0, 1); break;
+            case 4: loom.cut(1, 1); break;
+            case 5: loom.setting(0, 0, 1, 4); break;
+            case 6: loom.drop(1); break;
             case 7: loom.rest(0, 1, 3); break;
             case 8: loom.noRest(); break;
             case 9: loom.workers(0, 1); break;
@@ -198,6 +206,28 @@ public final class UndoTest {
             Check.same("50: left at turn " + turn, around.undo(), turn - 28);
         }
         Check.same("50: none is left", around.undo(), -1);
+    }
+
+    private static void keptAndRests() {
+        Manyshiftloom loom = Looms.crossed();
+        loom.keep(2);
+        loom.least();
+        loom.keep(2);
+        Check.same("50: kept in the place of another one", loom.undo(), 8);
+        Check.same("50: that one comes back", loom.take(2), 9);
+        loom.rest(0, 0, 5);
+        loom.noRest();
+        loom.rest(0, 5, 7);
+        loom.undo();
+        Check.same("50: no rest again", loom.rests(0, 0) || loom.rests(0, 5), false);
+        loom.undo();
+        Check.same("50: the rest from before", loom.rests(0, 0) && !loom.rests(0, 5), true);
+        loom.drop(0);
+        loom.order(2, 9, 0, 0, 1);
+        loom.undo();
+        loom.undo();
+        Check.same("50: the order from before", loom.orderOf(1, 1), 1);
+        Check.same("50: its works", loom.workOf(1, 1, 1), 4);
     }
 
     private static void whatStays() {
