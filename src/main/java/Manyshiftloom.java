@@ -900,13 +900,31 @@ public final class Manyshiftloom {
         int earliest(Shop shop, int order) {
             int work = at(placed, order);
             int machine = shop.workCell(order, work, MACHINE);
+            return firstFree(shop, machine, ready(shop, order), shop.timeOf(order, work));
+        }
+
+        int ready(Shop shop, int order) {
+            int work = at(placed, order);
+            int machine = shop.workCell(order, work, MACHINE);
             int tool = shop.workCell(order, work, TOOL);
-            int begin = Math.max(shop.orderCell(order, RELEASE), finishAt(at(orderLast, order)));
-            begin = Math.max(begin, readyAfter(shop, at(machineLast, machine), machine, order));
-            if (tool != NONE) {
-                begin = Math.max(begin, finishAt(at(toolLast, tool)));
+            int ready = Math.max(shop.orderCell(order, RELEASE), finishAt(at(orderLast, order)));
+            ready = Math.max(ready, readyAfter(shop, at(machineLast, machine), machine, order));
+            return tool == NONE ? ready : Math.max(ready, finishAt(at(toolLast, tool)));
+        }
+
+        /**
+         * Whether the next work of the order would have the same times ahead of the latest one, in a row that comes
+         * ahead of this one: so a search need not go on here.
+         */
+        boolean canSwap(Shop shop, int order) {
+            int latest = count - 1;
+            if (isScarce || latest < 0 || order >= at(orderAt, latest)) {
+                return false;
             }
-            return firstFree(shop, machine, begin, shop.timeOf(order, work));
+            int work = at(placed, order);
+            int tool = shop.workCell(order, work, TOOL);
+            return shop.workCell(order, work, MACHINE) != at(machineAt, latest)
+                    && (tool == NONE || tool != at(toolAt, latest));
         }
 
         private int finishAt(int place) {
@@ -921,7 +939,7 @@ public final class Manyshiftloom {
             return finishAt(place) + shop.settingOf(machine, kindBefore, shop.orderCell(order, KIND));
         }
 
-        private int firstFree(Shop shop, int machine, int from, int time) {
+        int firstFree(Shop shop, int machine, int from, int time) {
             int begin = from;
             for (int tries = 0; tries <= LAST && begin + time <= LAST; tries++) {
                 int next = shop.timeBehindRest(machine, begin, begin + time);
@@ -936,13 +954,27 @@ public final class Manyshiftloom {
             return NEVER;
         }
 
+        /** Goes shift by shift from behind: the latest time without a worker puts the begin off farthest. */
         private int timeBehindShortage(Shop shop, int from, int to) {
-            for (int time = to - 1; time >= from; time--) {
-                if (at(used, time) >= at(shop.shifts, shiftOf(time))) {
-                    return time + 1;
+            int first = to;
+            for (int last = to - 1; last >= from; last = first - 1) {
+                first = Math.max(from, last - last % SHIFT_TIMES);
+                int full = lastFull(first, last, at(shop.shifts, shiftOf(last)));
+                if (full != NONE) {
+                    return full + 1;
                 }
             }
             return from;
+        }
+
+        private int lastFull(int first, int last, int workers) {
+            int end = workers < MACHINES ? Math.min(last, LAST - 1) : NONE;
+            for (int time = end; time >= first && time >= 0; time--) {
+                if (used[time] >= workers) {
+                    return time;
+                }
+            }
+            return NONE;
         }
 
         void lay(Shop shop, int order, int begin) {
@@ -1235,24 +1267,25 @@ public final class Manyshiftloom {
                 return;
             }
             for (int order = 0; order < shop.orderCount && bestEnd > goal; order++) {
-                if (timing.placedOf(order) < shop.worksIn(order)) {
+                if (timing.placedOf(order) < shop.worksIn(order) && !timing.canSwap(shop, order)) {
                     exploreOrder(shop, timing, depth, end, order);
                 }
             }
         }
 
         private void exploreOrder(Shop shop, Timing timing, int depth, int end, int order) {
-            int begin = timing.earliest(shop, order);
-            if (begin == NEVER) {
-                return;
-            }
             int work = timing.placedOf(order);
             int machine = shop.workCell(order, work, MACHINE);
             int time = shop.timeOf(order, work);
-            int finish = begin + time;
             int left = at(leftOn, machine) - time;
-            int lowest = finish + Math.max(left, shop.timeFrom(order, work + 1));
-            if (Math.max(end, lowest) >= bestEnd) {
+            int behind = Math.max(left, shop.timeFrom(order, work + 1));
+            int ready = timing.ready(shop, order);
+            if (ready + time + behind >= bestEnd) {
+                return;
+            }
+            int begin = timing.firstFree(shop, machine, ready, time);
+            int finish = begin + time;
+            if (begin == NEVER || Math.max(end, finish + behind) >= bestEnd) {
                 return;
             }
             timing.lay(shop, order, begin);
