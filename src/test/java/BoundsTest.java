@@ -96,12 +96,7 @@ public final class BoundsTest {
         Check.same("26: the first row has no times", some.move(0, 1), false);
         Check.same("26: but another one has", some.least(), 2000);
         Check.same("26: that row", Looms.row(some), "012");
-        Manyshiftloom gap = new Manyshiftloom();
-        gap.order(0, 1, 0, 0, 1);
-        gap.work(0, 0, 5, -1);
-        gap.order(0, 1, 0, 0, 1);
-        gap.work(1, 0, 4, -1);
-        gap.rest(0, 4, 1995);
+        Manyshiftloom gap = Looms.gap();
         Check.same("26: the row 01 has no times", gap.hasTimes(), false);
         Check.same("26: the row 10 has", gap.least(), 2000);
         Check.same("26: it is the present one", Looms.row(gap), "10");

@@ -85,12 +85,7 @@ public final class CostsMovesTest {
         }
         Check.raisesIndex("38: no place", () -> new Manyshiftloom().move(0, 0));
         Check.same("38: no times", Looms.withoutTimes().move(0, 0), false);
-        Manyshiftloom gap = new Manyshiftloom();
-        gap.order(0, 1, 0, 0, 1);
-        gap.work(0, 0, 5, -1);
-        gap.order(0, 1, 0, 0, 1);
-        gap.work(1, 0, 4, -1);
-        gap.rest(0, 4, 1995);
+        Manyshiftloom gap = Looms.gap();
         Check.same("38: gets times", gap.move(0, 1), true);
         Check.same("38: loses them", gap.move(0, 1), false);
     }
@@ -261,12 +256,7 @@ public final class CostsMovesTest {
         loom.least();
         Check.same("43: all", loom.differ(0), 4);
         Check.same("43: the row stays", Looms.row(loom), "1010");
-        Manyshiftloom gap = new Manyshiftloom();
-        gap.order(0, 1, 0, 0, 1);
-        gap.work(0, 0, 5, -1);
-        gap.order(0, 1, 0, 0, 1);
-        gap.work(1, 0, 4, -1);
-        gap.rest(0, 4, 1995);
+        Manyshiftloom gap = Looms.gap();
         Check.raisesElement("43: the slot first", () -> gap.differ(1));
         gap.keep(0);
         Check.raisesState("43: neither has times", () -> gap.differ(0));

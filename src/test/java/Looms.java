@@ -45,6 +45,17 @@ final class Looms {
         return loom;
     }
 
+    /** Machine 0 is free for 4 times and then from 1995 on: the first row, 01, has no times, but 10 ends at 2000. */
+    static Manyshiftloom gap() {
+        Manyshiftloom loom = new Manyshiftloom();
+        loom.order(0, 1, 0, 0, 1);
+        loom.work(0, 0, 5, -1);
+        loom.order(0, 1, 0, 0, 1);
+        loom.work(1, 0, 4, -1);
+        loom.rest(0, 4, 1995);
+        return loom;
+    }
+
     static String row(Manyshiftloom loom) {
         StringBuilder row = new StringBuilder();
         for (int place = 0; place < loom.works(); place++) {

@@ -28,7 +28,10 @@ public final class RandomRunsTest {
     }
 
     public static void main(String[] args) {
-        for (int run = 0; run < RUNS; run++) {
+        // Other runs than those of each time: java RandomRunsTest 800 10000
+        int first = args.length > 0 ? Integer.parseInt(args[0]) : 0;
+        int behind = args.length > 1 ? Integer.parseInt(args[1]) : RUNS;
+        for (int run = first; run < behind; run++) {
             new RandomRunsTest(run).run(run);
         }
         Check.close();
