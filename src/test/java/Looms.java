@@ -56,6 +56,73 @@ final class Looms {
         return loom;
     }
 
+    /** Every store holds something, and there is room for more; 12 changes can be undone. */
+    static Manyshiftloom rich() {
+        Manyshiftloom loom = two();
+        loom.order(2, 3, 4, 40, 5);
+        loom.work(2, 1, 1, 2);
+        loom.keep(1);
+        loom.setting(0, 0, 1, 3);
+        loom.rest(0, 30, 40);
+        loom.rest(1, 2, 5);
+        loom.workers(1, 2);
+        loom.setRate(false, 2);
+        loom.move(0, 3);
+        loom.keep(0);
+        loom.plan(3);
+        tape(loom, "0012 9");
+        tried(loom);
+        tape(loom, " 01\n");
+        loom.write();
+        return loom;
+    }
+
+    private static void tried(Manyshiftloom loom) {
+        Check.raisesArgument("a text with an error", loom::read);
+    }
+
+    /** 8 orders with 2 works each: there is room for no more. */
+    static Manyshiftloom full() {
+        Manyshiftloom loom = alike(8);
+        for (int order = 0; order < 8; order++) {
+            loom.work(order, 1 + order % 3, 1 + order, order % 3);
+        }
+        return loom;
+    }
+
+    /** So many orders without works, each of 9 pieces. */
+    static Manyshiftloom bare(int orders) {
+        Manyshiftloom loom = new Manyshiftloom();
+        for (int order = 0; order < orders; order++) {
+            loom.order(order % 4, 9, 0, 0, 1);
+        }
+        return loom;
+    }
+
+    /** Three orders of one work each, with 10 rests told. */
+    static Manyshiftloom tenRests() {
+        Manyshiftloom loom = alike(3);
+        for (int told = 0; told < 10; told++) {
+            loom.rest(told % 4, told, told + 1);
+        }
+        return loom;
+    }
+
+    /** One order whose only work, on machine 0, takes so many times (1 to 9). */
+    static Manyshiftloom single(int release, int due, int time) {
+        Manyshiftloom loom = new Manyshiftloom();
+        loom.order(0, 1, release, due, 1);
+        loom.work(0, 0, time, -1);
+        return loom;
+    }
+
+    /** One order whose only work, of time 1, begins at 1999 and ends at 2000: the latest that there is. */
+    static Manyshiftloom latest() {
+        Manyshiftloom loom = single(0, 0, 1);
+        loom.rest(0, 0, 1999);
+        return loom;
+    }
+
     static String row(Manyshiftloom loom) {
         StringBuilder row = new StringBuilder();
         for (int place = 0; place < loom.works(); place++) {
