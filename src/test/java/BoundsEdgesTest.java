@@ -14,6 +14,8 @@ public final class BoundsEdgesTest {
         leastOfNone();
         leastWithoutTimes();
         leastOfSeveral();
+        leastOfRowsThatShare();
+        leastAgain();
         leastAtTheLastTime();
         critical();
         criticalChain();
@@ -148,6 +150,58 @@ public final class BoundsEdgesTest {
         Looms.read(loom, "210210");
         Check.same("26: with one worker every row ends alike", loom.least(), 6);
         Check.same("26: the first row with one worker", Looms.row(loom), "001122");
+    }
+
+    /** Only the row 10 ends at 9: order 1 begins ahead of a rest, or behind it. */
+    private static Manyshiftloom firstOrLate(int tool) {
+        Manyshiftloom loom = new Manyshiftloom();
+        loom.order(0, 1, 0, 0, 1);
+        loom.work(0, 0, 5, tool);
+        loom.order(0, 1, 0, 0, 1);
+        loom.work(1, 1, 4, tool);
+        loom.rest(1, 4, 1000);
+        return loom;
+    }
+
+    /** Rows in which two works side by side share a worker, a tool, or their order. */
+    private static void leastOfRowsThatShare() {
+        Manyshiftloom workers = firstOrLate(-1);
+        Check.same("26: both at once", workers.least(), 5);
+        Check.same("26: the first row", Looms.row(workers), "01");
+        for (int shift = 0; shift < 3; shift++) {
+            workers.workers(shift, 1);
+        }
+        Check.same("26: one worker", workers.least(), 9);
+        Check.same("26: who begins first counts", Looms.row(workers), "10");
+        Manyshiftloom tool = firstOrLate(2);
+        Check.same("26: one tool", tool.least(), 9);
+        Check.same("26: which begins first counts", Looms.row(tool), "10");
+        Manyshiftloom order = Looms.bare(1);
+        for (int machine = 0; machine < 4; machine++) {
+            order.work(0, machine, 9, machine % 3);
+        }
+        Check.same("26: one order through four machines", order.least(), 324);
+        Manyshiftloom first = Looms.two();
+        first.move(0, 2);
+        first.least();
+        Check.same("26: the first row, with two works of one order", Looms.row(first), "001");
+    }
+
+    private static void leastAgain() {
+        Manyshiftloom loom = Looms.alike(3);
+        for (int order = 0; order < 3; order++) {
+            loom.setAmount(order, 9);
+        }
+        Check.same("26: of the longest", loom.least(), 27);
+        for (int order = 0; order < 3; order++) {
+            loom.setAmount(order, 1);
+        }
+        loom.rest(0, 3, 2000);
+        Check.same("26: again, of the shortest", loom.least(), 3);
+        loom.drop(0);
+        loom.drop(0);
+        loom.drop(0);
+        Check.same("26: again, of none", loom.least(), 0);
     }
 
     private static void leastAtTheLastTime() {
