@@ -10,15 +10,18 @@ public final class BoundsEdgesTest {
         bound();
         boundOfOrder();
         boundOfMachine();
+        boundOfEachMachine();
         leastOfMoreThan8();
         leastOfNone();
         leastWithoutTimes();
         leastOfSeveral();
         leastOfRowsThatShare();
+        leastOfRowsThatDoNot();
         leastAgain();
         leastAtTheLastTime();
         critical();
         criticalChain();
+        criticalOfTheLastPlaces();
         criticalOfSeveral();
         criticalAt();
         Check.close();
@@ -95,6 +98,19 @@ public final class BoundsEdgesTest {
         loom.order(0, 1, 0, 0, 1);
         loom.work(3, 0, 1, -1);
         Check.same("25: a first work has none ahead", loom.bound(), 19);
+    }
+
+    private static void boundOfEachMachine() {
+        for (int machine = 0; machine < 4; machine++) {
+            Manyshiftloom loom = new Manyshiftloom();
+            loom.order(0, 1, 100, 0, 1);
+            loom.work(0, machine, 6, -1);
+            loom.work(0, (machine + 1) % 4, 9, -1);
+            loom.order(0, 1, 102, 0, 1);
+            loom.work(1, machine, 7, -1);
+            loom.work(1, (machine + 2) % 4, 8, -1);
+            Check.same("25: the machine " + machine, loom.bound(), 13 + 100 + 8);
+        }
     }
 
     private static Manyshiftloom nine() {
@@ -187,6 +203,30 @@ public final class BoundsEdgesTest {
         Check.same("26: the first row, with two works of one order", Looms.row(first), "001");
     }
 
+    /** Rows in which only two works that are not side by side, or not the first two, share something. */
+    private static void leastOfRowsThatDoNot() {
+        Manyshiftloom machine = Looms.single(3, 0, 4);
+        machine.order(0, 1, 0, 0, 1);
+        machine.work(1, 0, 4, -1);
+        machine.work(0, 1, 1, -1);
+        Check.same("26: the first two share a machine, the last two an order", machine.least(), 9);
+        Check.same("26: the order that is released first", Looms.row(machine), "100");
+        Manyshiftloom tool = new Manyshiftloom();
+        tool.order(0, 1, 3, 0, 1);
+        tool.work(0, 2, 1, 0);
+        tool.order(0, 1, 1, 0, 1);
+        tool.work(1, 0, 3, 0);
+        Check.same("26: they share the tool 0 alone", tool.least(), 5);
+        Check.same("26: the tool is free for the other one then", Looms.row(tool), "10");
+        Manyshiftloom between = new Manyshiftloom();
+        for (int order = 0; order < 3; order++) {
+            between.order(0, 1, order == 0 ? 2 : 0, 0, 1);
+            between.work(order, order == 1 ? 1 : 0, 3, -1);
+        }
+        Check.same("26: the first and the last of the row share a machine", between.least(), 6);
+        Check.same("26: the first row of these", Looms.row(between), "120");
+    }
+
     private static void leastAgain() {
         Manyshiftloom loom = Looms.alike(3);
         for (int order = 0; order < 3; order++) {
@@ -254,6 +294,30 @@ public final class BoundsEdgesTest {
         none.order(0, 1, 3, 0, 1);
         none.work(1, 1, 5, -1);
         Check.same("27: NONE is no tool that is shared", none.critical(), 1);
+    }
+
+    /** Twelve works of one machine, done by then; behind them works that are critical, in each of the three ways. */
+    private static void criticalOfTheLastPlaces() {
+        for (int way = 0; way < 3; way++) {
+            Manyshiftloom loom = Looms.bare(0);
+            for (int order = 0; order < 3; order++) {
+                loom.order(0, 1, 0, 0, 1);
+                for (int work = 0; work < 4; work++) {
+                    loom.work(order, 0, 1, -1);
+                }
+            }
+            loom.order(0, 1, 200, 0, 1);
+            loom.work(3, 1, 9, 2);
+            loom.order(0, 1, 200, 0, 1);
+            if (way == 0) {
+                loom.work(3, 2, 5, -1);
+            } else {
+                loom.work(4, way, 5, way == 1 ? -1 : 2);
+            }
+            Check.same("27: the order, the machine, the tool: " + way, loom.critical(), 2);
+            Check.same("28: the place 12", loom.criticalAt(0), 30);
+            Check.same("28: the place 13", loom.criticalAt(1), way == 0 ? 31 : 40);
+        }
     }
 
     /** "the last one is, of the works with the greatest end, the one at the least place of the row". */

@@ -97,6 +97,12 @@ public final class CostsMovesEdgesTest {
         Check.same("37: without works, released at its day due", bare.late(), 0);
         bare.order(0, 1, 200, 199, 1);
         Check.same("37: without works, released behind it", bare.late(), 1);
+        Manyshiftloom some = Looms.bare(0);
+        for (int order = 0; order < 4; order++) {
+            some.order(0, 1, 0, order == 1 ? 2 : order, 1);
+            some.work(order, 0, 1, -1);
+        }
+        Check.same("37: those that end at 1, 3 and 4, not the one that ends at 2", some.late(), 3);
     }
 
     private static void move() {

@@ -92,6 +92,7 @@ public final class MachinesEdgesTest {
         Check.same("32: though it came first", one(orders(3, 5, 1, 3, 4, 1), 2, 2), "01");
         Check.same("32: the longest, though it came first", one(orders(4, 4, 1, 3, 5, 1), 2, 2), "10");
         Check.same("32: the longest, though it is the last one", one(orders(3, 4, 1, 4, 5, 1), 2, 2), "01");
+        Check.same("32: of two alike behind a shorter one", one(orders(1, 1, 1, 3, 6, 1, 3, 5, 1), 2, 3), "012");
         Check.same("32: of three alike the one between", one(orders(3, 3, 1, 2, 9, 1, 3, 6, 1, 3, 8, 1), 2, 4), "0213");
     }
 

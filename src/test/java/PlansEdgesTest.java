@@ -31,6 +31,14 @@ public final class PlansEdgesTest {
             Edge.answers("16: 16 works, rule " + rule, Looms.full(), true, loom -> loom.plan(rule));
             Edge.answers("16: no times, rule " + rule, Looms.withoutTimes(), false, loom -> loom.plan(rule));
         }
+        Manyshiftloom all = Looms.bare(0);
+        for (int order = 0; order < 8; order++) {
+            all.order(0, 1, 0, 70 - order, 1);
+            all.work(order, 0, 1, -1);
+            all.work(order, 0, 1, -1);
+        }
+        all.plan(3);
+        Check.same("16: the row of 16 works", Looms.row(all), "7766554433221100");
         Edge.refuses("16: the rule ahead of the times", NONE, Edge.ARGUMENT, loom -> loom.plan(6));
         Manyshiftloom some = Looms.alike(2);
         some.order(0, 1, 0, 0, 9);

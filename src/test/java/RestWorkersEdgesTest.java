@@ -9,6 +9,7 @@ public final class RestWorkersEdgesTest {
         rest();
         restWhen10AreTold();
         restAnswers();
+        restThatGivesTimes();
         restEnds();
         noRest();
         workers();
@@ -16,6 +17,9 @@ public final class RestWorkersEdgesTest {
         workersWrapAround();
         oneWorkerInAllOfItsTime();
         workersLeft();
+        workersAheadAndBehind();
+        workersOfTwoShifts();
+        workersOfTheLastTime();
         rests();
         restsEnds();
         Check.close();
@@ -68,6 +72,21 @@ public final class RestWorkersEdgesTest {
         Manyshiftloom none = Looms.withoutTimes();
         Edge.answers("12: had none", none, -1, loom -> loom.rest(3, 0, 1));
         Check.same("12: it is told all the same", none.noRest(), 1);
+    }
+
+    /** Order 1 has the times 0 to 1 alone: it needs the worker that order 0 takes, until a rest puts that one off. */
+    private static void restThatGivesTimes() {
+        Manyshiftloom loom = Looms.alike(2);
+        loom.order(0, 1, 0, 0, 1);
+        loom.work(2, 1, 2, -1);
+        loom.rest(1, 2, 2000);
+        for (int shift = 0; shift < 3; shift++) {
+            loom.workers(shift, 1);
+        }
+        Check.same("12: no times at first", loom.hasTimes(), false);
+        Check.same("12: it had none", loom.rest(0, 0, 2), -1);
+        Check.same("12: it has times now", loom.hasTimes(), true);
+        Check.same("12: none of them is another", loom.rest(0, 4, 5), 0);
     }
 
     /** A work of 3 times beside a rest from 10 to 20. */
@@ -203,6 +222,63 @@ public final class RestWorkersEdgesTest {
                 Check.same("14: with " + workers + " workers", loom.begin(order, 0), order / workers * 2);
             }
             Check.same("14: " + workers + " at once", loom.busy(1), workers);
+        }
+    }
+
+    /** Two works on two machines; the first one of the row has the times 20 to 23, and takes a worker in these alone. */
+    private static int beginBeside(int release, int time) {
+        Manyshiftloom loom = Looms.single(20, 0, 4);
+        loom.order(0, 1, release, 0, 1);
+        loom.work(1, 1, time, -1);
+        for (int shift = 0; shift < 3; shift++) {
+            loom.workers(shift, 1);
+        }
+        return loom.begin(1, 0);
+    }
+
+    /** "Each work needs one worker in all of its time": in no time ahead of it or behind it. */
+    private static void workersAheadAndBehind() {
+        Check.same("14: ahead of it", beginBeside(0, 9), 0);
+        Check.same("14: it ends as the other begins", beginBeside(11, 9), 11);
+        Check.same("14: one time too late for that", beginBeside(12, 9), 24);
+        Check.same("14: one time too long for that", beginBeside(19, 2), 24);
+        Check.same("14: in its last time", beginBeside(23, 1), 24);
+        Check.same("14: it begins as the other ends", beginBeside(24, 9), 24);
+    }
+
+    /** Each time is held against the workers of its own shift: 3 up to the time 7, 1 from 8 on. */
+    private static void workersOfTwoShifts() {
+        for (int other = 7; other <= 9; other++) {
+            Manyshiftloom loom = Looms.single(0, 0, other);
+            loom.order(0, 1, 6, 0, 1);
+            loom.work(1, 1, 4, -1);
+            loom.workers(0, 3);
+            loom.workers(1, 1);
+            Check.same("14: the other one ends at " + other, loom.begin(1, 0), other <= 8 ? 6 : 9);
+        }
+        Manyshiftloom less = Looms.single(0, 0, 9);
+        less.order(0, 1, 6, 0, 1);
+        less.work(1, 1, 4, -1);
+        less.workers(0, 1);
+        less.workers(1, 3);
+        Check.same("14: one worker up to the time 7, three from 8 on", less.begin(1, 0), 8);
+    }
+
+    /** The time 1999 has its workers, too. */
+    private static void workersOfTheLastTime() {
+        for (int workers = 0; workers <= 3; workers++) {
+            Manyshiftloom loom = new Manyshiftloom();
+            for (int machine = 0; machine < 3; machine++) {
+                loom.order(0, 1, 0, 0, 1);
+                loom.work(machine, machine, 1, -1);
+                loom.rest(machine, 0, 1999);
+            }
+            loom.workers(0, workers);
+            Check.same("14: three at the last time, workers " + workers, loom.hasTimes(), workers == 3);
+            loom.drop(2);
+            Check.same("14: two at the last time, workers " + workers, loom.hasTimes(), workers >= 2);
+            loom.drop(1);
+            Check.same("14: one at the last time, workers " + workers, loom.hasTimes(), workers >= 1);
         }
     }
 

@@ -142,6 +142,11 @@ public final class TextsEdgesTest {
         error("the last byte of a full tape", () -> blanks(Looms.two(), 59), "x", 59);
         error("the digit 8", Looms::full, "8", 0);
         error("the sixteenth place lacks", Looms::full, "001122334455667", 15);
+        for (int order = 0; order < 8; order++) {
+            String digit = String.valueOf(order);
+            error("once too often, order " + order, Looms::full, digit + " " + digit + digit, 3);
+            error("once too often behind the others, order " + order, Looms::full, "0011223344556677" + digit, 16);
+        }
     }
 
     /** "a call that throws an exception changes nothing, except that read() empties the tape [...]". */

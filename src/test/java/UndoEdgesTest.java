@@ -24,6 +24,7 @@ public final class UndoEdgesTest {
         meanEnd();
         use();
         errors();
+        errorsOfCriticalWorks();
         all512Calls();
         Check.close();
     }
@@ -399,6 +400,30 @@ public final class UndoEdgesTest {
                 Check.same("54: " + workers + " workers", full.errors(), 0);
             }
         }
+    }
+
+    /** "critical works but the first that do not begin as section 5 tells": in each of its three ways they do. */
+    private static void errorsOfCriticalWorks() {
+        for (int tool = 0; tool < 3; tool++) {
+            Manyshiftloom loom = new Manyshiftloom();
+            for (int order = 0; order < 3; order++) {
+                loom.order(order, 1, 0, 0, 1);
+                loom.work(order, order, 3, tool);
+            }
+            Check.same("54: critical by the tool " + tool, loom.critical(), 3);
+            Check.same("54: each begins as its tool is free", loom.errors(), 0);
+        }
+        Manyshiftloom machine = Looms.alike(1);
+        machine.order(1, 1, 0, 0, 1);
+        machine.work(1, 0, 3, -1);
+        machine.setting(0, 0, 1, 4);
+        Check.same("54: critical by the machine and the setting", machine.critical(), 2);
+        Check.same("54: it begins behind the setting", machine.errors(), 0);
+        Manyshiftloom order = Looms.single(3, 0, 2);
+        order.work(0, 1, 2, 0);
+        order.work(0, 1, 2, -1);
+        Check.same("54: critical by the order", order.critical(), 3);
+        Check.same("54: each begins as the one ahead ends", order.errors(), 0);
     }
 
     /** "An object is used for at most 512 calls": the last of them answers as the first one. */
