@@ -225,6 +225,14 @@ public final class BoundsEdgesTest {
         }
         Check.same("26: the first and the last of the row share a machine", between.least(), 6);
         Check.same("26: the first row of these", Looms.row(between), "120");
+        Manyshiftloom last = Looms.single(0, 0, 1);
+        for (int order = 1; order < 8; order++) {
+            last.order(0, 1, 0, 0, 1);
+        }
+        last.work(7, 0, 1, -1);
+        last.work(7, 1, 1, -1);
+        Check.same("26: the greatest order first", last.least(), 2);
+        Check.same("26: the row of that", Looms.row(last), "707");
     }
 
     private static void leastAgain() {

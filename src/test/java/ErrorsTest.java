@@ -14,6 +14,7 @@ public final class ErrorsTest {
         workers();
         bound();
         ends();
+        critical();
         bestOfAllOrders();
         Check.close();
     }
@@ -99,6 +100,35 @@ public final class ErrorsTest {
         Manyshiftloom loom = Looms.gap();
         shift(loom, 0, -3);
         Check.same("54: the present plan has no times", loom.errors(), 0);
+    }
+
+    /** Three works that share nothing; each begins as the one ahead of it in the row ends. */
+    private static Manyshiftloom chain(int tool) {
+        Manyshiftloom loom = new Manyshiftloom();
+        for (int order = 0; order < 3; order++) {
+            loom.order(0, 1, 3 * order, 0, 1);
+            loom.work(order, order, 3, order == 1 ? tool : -1);
+        }
+        return loom;
+    }
+
+    private static void critical() throws ReflectiveOperationException {
+        for (String way : new String[] {"orderBefore", "machineBefore", "toolBefore"}) {
+            Manyshiftloom loom = chain(2);
+            Check.same("54: only the first one is critical", loom.critical(), 1);
+            cells(loom, "present", way)[2] = 1;
+            Check.same("54: a critical work that does not begin as is told, " + way, loom.errors(), 1);
+            cells(loom, "present", way)[1] = 0;
+            Check.same("54: two of three", loom.errors(), 2);
+            cells(loom, "present", way)[2] = -1;
+            Check.same("54: the last one alone is critical again", loom.errors(), 0);
+        }
+        Manyshiftloom none = chain(-1);
+        cells(none, "present", "toolBefore")[2] = 1;
+        Check.same("54: NONE is no tool that is shared", none.errors(), 1);
+        cells(none, "present", "toolAt")[2] = 1;
+        cells(none, "present", "toolAt")[1] = 1;
+        Check.same("54: now it begins as its tool is free", none.errors(), 0);
     }
 
     /** A method of a part of the loom, found by its name alone. */

@@ -11,6 +11,7 @@ public final class GoneTest {
         cutAndUndone();
         shorterRows();
         leastBehindADrop();
+        boundBehindADrop();
         Check.close();
     }
 
@@ -221,6 +222,21 @@ public final class GoneTest {
         Manyshiftloom fresh = loomOf("10");
         fresh.write();
         sameAs("4: a shorter row", loom, fresh);
+    }
+
+    /** The one that went could begin earlier than those that are left, and has nothing behind it. */
+    private static void boundBehindADrop() {
+        Manyshiftloom loom = new Manyshiftloom();
+        for (int order = 0; order < 2; order++) {
+            loom.order(0, 1, 50, 0, 1);
+            loom.work(order, 0, 5 + order, -1);
+            loom.work(order, 1, 3, -1);
+        }
+        loom.order(0, 1, 0, 0, 1);
+        loom.work(2, 0, 1, -1);
+        Check.same("25: with it, the other machine is the longest", loom.bound(), 55 + 3 + 3);
+        loom.drop(2);
+        Check.same("25: without it", loom.bound(), 50 + 5 + 6 + 3);
     }
 
     /** The one that went would end earlier than the one that is left, which can't reach the bound. */

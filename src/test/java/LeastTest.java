@@ -1,6 +1,6 @@
 /**
  * Promise 26: the least end, and the first row that has it, are those that come out when each row of the loom is put on
- * the tape and read, one by one.
+ * the tape and read, one by one. Promise 54: none of these looms has an error.
  */
 public final class LeastTest {
     private static final int LOOMS = 3000;
@@ -44,7 +44,8 @@ public final class LeastTest {
     private Manyshiftloom make() {
         seed = number * 104729L + 71;
         Manyshiftloom loom = new Manyshiftloom();
-        int orders = 1 + below(5);
+        int orders = 1 + below(6);
+        int longest = 2 + below(4);
         int machines = 1 + below(4);
         int tools = below(4);
         for (int order = 0; order < orders; order++) {
@@ -54,7 +55,7 @@ public final class LeastTest {
         for (int work = 0; work < works; work++) {
             int order = below(orders);
             if (loom.orderOf(order, 5) < 4) {
-                loom.work(order, below(machines), 1 + below(5), below(tools + 1) - 1);
+                loom.work(order, below(machines), 1 + below(longest), below(tools + 1) - 1);
             }
         }
         for (int settings = below(2) * below(8); settings > 0; settings--) {
@@ -96,6 +97,7 @@ public final class LeastTest {
         String before = Looms.row(loom);
         Check.same("26: loom " + number, loom.least(), leastEnd);
         Check.same("26: the row of loom " + number, Looms.row(loom), leastEnd == -1 ? before : leastRow);
+        Check.same("54: the errors of loom " + number, loom.errors(), 0);
     }
 
     /** At most 8 digits, put on the tape in one call. */

@@ -76,6 +76,13 @@ public final class PlansEdgesTest {
             later.work(1, 1, 1, -1);
             later.plan(rule);
             Check.same("16: what would begin first comes first by rule " + rule, Looms.row(later), "10");
+            Manyshiftloom better = new Manyshiftloom();
+            better.order(0, 1, 0, 9, 1);
+            better.work(0, 0, 5, -1);
+            better.order(0, 1, 1, 0, 9);
+            better.work(1, 1, rule == 2 || rule == 5 ? 9 : 1, -1);
+            better.plan(rule);
+            Check.same("16: though the other one is better by rule " + rule, Looms.row(better), "01");
         }
         Manyshiftloom left = new Manyshiftloom();
         for (int order = 0; order < 2; order++) {

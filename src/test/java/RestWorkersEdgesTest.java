@@ -289,6 +289,11 @@ public final class RestWorkersEdgesTest {
     }
 
     private static void restsEnds() {
+        Manyshiftloom ten = Looms.tenRests();
+        for (int told = 0; told < 10; told++) {
+            Check.same("15: each of 10, the one at " + told, ten.rests(told % 4, told), true);
+            Check.same("15: of its machine alone", ten.rests((told + 1) % 4, told), false);
+        }
         Manyshiftloom loom = new Manyshiftloom();
         loom.rest(1, 0, 1);
         loom.rest(2, 1999, 2000);

@@ -392,6 +392,13 @@ public final class UndoEdgesTest {
         for (int orders = 1; orders <= 8; orders++) {
             Edge.answers("54: orders on a machine: " + orders, Looms.alike(orders), 0, Manyshiftloom::errors);
         }
+        Manyshiftloom heavy = new Manyshiftloom();
+        for (int order = 0; order < 6; order++) {
+            heavy.order(0, 9, 0, 0, 9);
+            heavy.work(order, 2, 9, -1);
+            heavy.work(order, 3, 9, -1);
+        }
+        Check.same("54: six of the longest and the heaviest", heavy.errors(), 0);
         Manyshiftloom full = Looms.full();
         Check.same("54: 16 works", full.errors(), 0);
         for (int workers = 4; workers >= 0; workers--) {
